@@ -329,7 +329,7 @@ public final class FileTree {
             }
         }
 
-        /** Place and length are divided by 4. */
+        /** Place and length are multiples of 4. */
         void wipe(int place, int length) {
             for (int i = 0; i < length; i += 4) {
                 setNumber(place + i, 0);

@@ -472,6 +472,16 @@ public final class PromisesTest {
         due("two blocks", 459, t.free());
         due("the block of numbers first", inodeNumber(t, 2, 12) + 1, number(t, inodeNumber(t, 2, 12), 0));
         due("found", 3, find(t, 1, "d/more"));
+        for (int i = 769; i < 274432 / 16; i++) {
+            due("link", 3, link(t, 2, "f m" + i));
+        }
+        due("all that it can have", 274432, t.about(2, 4));
+        due("no link more", -1, link(t, 2, "f again"));
+        due("no file more", -1, create(t, "d/again", FILE));
+        due("no directory more", -1, create(t, "d/again", DIRECTORY));
+        due("blocks", 473 - 269, t.free());
+        due("unlink", 3, unlink(t, "d/m9999"));
+        due("a free entry", 3, link(t, 2, "f again"));
     }
 
     private static void unlink() {
@@ -534,8 +544,16 @@ public final class PromisesTest {
         due("links of the root", 3, t.about(1, 3));
         dueEntry(t, 40, 0, "0 ______________");
         dueEntry(t, 40, 16, "0 ______________");
+        due("dot of an empty one", -1, unlink(t, "d/."));
+        due("dots of an empty one", -1, unlink(t, "d/.."));
+        due("it has them still", 1, find(t, 2, "./.."));
         due("unlink d", 2, unlink(t, "d"));
         due("links of the root", 2, t.about(1, 3));
+        due("three dots are a name", 2, create(t, "...", DIRECTORY));
+        due("three dots are a name", 2, unlink(t, "..."));
+        due("dots and a letter", 2, create(t, ".x", FILE));
+        due("dots and a letter", 2, unlink(t, ".x"));
+        due("of the new root", -1, unlinkFrom(new FileTree(), 1, "."));
         due("free", 473, t.free());
     }
 
