@@ -55,95 +55,30 @@ public final class PromisesTest {
         due(what, want ? 1 : 0, got ? 1 : 0);
     }
 
-    private static void text(FileTree t, String s) {
-        long w = 0;
-        for (int i = 0; i < s.length(); i++) {
-            w = w << 8 | s.charAt(i);
-            if (i % 8 == 7 || i == s.length() - 1) {
-                due("room for the text " + s, true, t.write(w));
-                w = 0;
-            }
-        }
-    }
-
-    private static int find(FileTree t, int from, String path) {
-        text(t, path);
-        return t.find(from);
-    }
-
-    private static int create(FileTree t, String path, int kind) {
-        text(t, path);
-        return t.create(1, kind, 0, 0);
-    }
-
-    private static int link(FileTree t, int from, String paths) {
-        text(t, paths);
-        return t.link(from);
-    }
-
-    private static int unlink(FileTree t, String path) {
-        text(t, path);
-        return t.unlink(1);
-    }
-
-    private static int number(FileTree t, int b, int k) {
-        return half(t, b, k) | half(t, b, k + 2) << 16;
-    }
-
-    private static int half(FileTree t, int b, int k) {
-        return t.peek(b, k) | t.peek(b, k + 1) << 8;
-    }
-
-    private static int inodeNumber(FileTree t, int inode, int k) {
-        return number(t, 33 + inode / 16, inode % 16 * 64 + 12 + 4 * k);
-    }
-
-    private static String entry(FileTree t, int b, int k) {
-        StringBuilder s = new StringBuilder().append(half(t, b, k)).append(' ');
-        for (int i = 2; i < 16; i++) {
-            s.append(t.peek(b, k + i) == 0 ? '_' : (char) t.peek(b, k + i));
-        }
-        return s.toString();
-    }
-
-    private static void dueEntry(FileTree t, int b, int k, String want) {
-        String got = entry(t, b, k);
+    private static void dueEntry(Tree t, int b, int k, String want) {
+        String got = t.entry(b, k);
         if (!got.equals(want)) {
             wrong++;
             System.out.println("entry at " + b + ", " + k + " is " + got + ", due is " + want);
         }
     }
 
-    /** Saves n bytes more at a file's end, in as many calls as that takes: how many came. */
-    private static int grow(FileTree t, int inode, int n) {
-        int came = 0;
-        while (came < n) {
-            int part = Math.min(3072, n - came);
-            int now = t.save(inode, t.about(inode, 4), part);
-            came += Math.max(now, 0);
-            if (now != part) {
-                break;
-            }
-        }
-        return came;
-    }
-
     /** Two files take blocks until just some are left (a number that two files can leave). */
-    private static void leaveFree(FileTree t, int left) {
-        int first = create(t, "/full1", FILE);
-        grow(t, first, 268 * 1024);
-        int second = create(t, "/full2", FILE);
+    private static void leaveFree(Tree t, int left) {
+        int first = t.create("/full1", FILE);
+        t.grow(first, 0, 268 * 1024);
+        int second = t.create("/full2", FILE);
         for (int i = 0; i < 500 && t.free() > left; i++) {
-            grow(t, second, 1024);
+            t.grow(second, i * 1024, 1024);
         }
         due("blocks left", left, t.free());
     }
 
     private static void newObject() {
-        FileTree t = new FileTree();
+        Tree t = new Tree(Tree.ANY_NUMBER);
         int[] superblock = {270544960, 512, 474, 64, 31, 2, 33, 37};
         for (int i = 0; i < superblock.length; i++) {
-            due("superblock " + i, superblock[i], number(t, 1, 4 * i));
+            due("superblock " + i, superblock[i], t.number(1, 4 * i));
         }
         int sum = 0;
         for (int b = 0; b < 512; b++) {
@@ -162,11 +97,11 @@ public final class PromisesTest {
         for (int what = 0; what < 6; what++) {
             due("root " + what, root[what], t.about(1, what));
         }
-        due("root's block", 38, inodeNumber(t, 1, 0));
-        due("root's next block", 0, inodeNumber(t, 1, 1));
-        due("root's kind on its block", 1, half(t, 33, 64));
-        due("root's links on its block", 2, half(t, 33, 70));
-        due("root's size on its block", 32, number(t, 33, 72));
+        due("root's block", 38, t.inodeNumber(1, 0));
+        due("root's next block", 0, t.inodeNumber(1, 1));
+        due("root's kind on its block", 1, t.half(33, 64));
+        due("root's links on its block", 2, t.half(33, 70));
+        due("root's size on its block", 32, t.number(33, 72));
         dueEntry(t, 38, 0, "1 ._____________");
         dueEntry(t, 38, 16, "1 ..____________");
         for (int k = 0; k < 3072; k++) {
@@ -177,7 +112,7 @@ public final class PromisesTest {
     }
 
     private static void write() {
-        FileTree t = new FileTree();
+        Tree t = new Tree(Tree.ANY_NUMBER);
         due("bytes from the highest on", true, t.write(0x2F61626364656667L));
         due("create", 2, t.create(1, FILE, 0, 0));
         dueEntry(t, 38, 32, "2 abcdefg_______");
@@ -204,74 +139,74 @@ public final class PromisesTest {
     }
 
     private static void find() {
-        FileTree t = new FileTree();
-        due("create", 2, create(t, "/a", DIRECTORY));
-        due("create", 3, create(t, "/a/b", DIRECTORY));
-        due("create", 4, create(t, "/a/b/f", FILE));
-        due("create", 5, create(t, "/a/b/d", DEVICE));
-        due("absolute", 4, find(t, 3, "/a/b/f"));
-        due("relative", 4, find(t, 2, "b/f"));
-        due("not from there", -1, find(t, 3, "b/f"));
-        due("many slashes", 4, find(t, 1, "//a///b////f//"));
-        due("dots", 4, find(t, 3, "../../a/./b/../b/f"));
-        due("above the root", 1, find(t, 1, "../../.."));
-        due("absolute above the root", 2, find(t, 1, "/../a"));
-        due("no names", 1, find(t, 3, "/"));
-        due("no names", 1, find(t, 3, "////"));
-        due("empty", 3, find(t, 3, ""));
-        due("empty from a file", 4, find(t, 4, ""));
-        due("empty from a device", 5, find(t, 5, ""));
-        due("on from a file", -1, find(t, 4, "."));
-        due("on from a device", -1, find(t, 1, "/a/b/d/."));
-        due("a slash behind a file", 4, find(t, 1, "/a/b/f/"));
-        due("absolute from a file", 3, find(t, 4, "/a/b"));
-        due("nowhere", -1, find(t, 1, "/x"));
-        due("nowhere on the way", -1, find(t, 1, "/x/../a"));
-        due("other case", -1, find(t, 1, "/A"));
-        due("beginning of a name", -1, find(t, 1, "/a/bb"));
-        due("a blank", -1, find(t, 1, "/a "));
-        due("a blank", -1, find(t, 1, " /a"));
-        due("only a blank", -1, find(t, 1, " "));
+        Tree t = new Tree(Tree.ANY_NUMBER);
+        due("create", 2, t.create("/a", DIRECTORY));
+        due("create", 3, t.create("/a/b", DIRECTORY));
+        due("create", 4, t.create("/a/b/f", FILE));
+        due("create", 5, t.create("/a/b/d", DEVICE));
+        due("absolute", 4, t.find(3, "/a/b/f"));
+        due("relative", 4, t.find(2, "b/f"));
+        due("not from there", -1, t.find(3, "b/f"));
+        due("many slashes", 4, t.find(1, "//a///b////f//"));
+        due("dots", 4, t.find(3, "../../a/./b/../b/f"));
+        due("above the root", 1, t.find(1, "../../.."));
+        due("absolute above the root", 2, t.find(1, "/../a"));
+        due("no names", 1, t.find(3, "/"));
+        due("no names", 1, t.find(3, "////"));
+        due("empty", 3, t.find(3, ""));
+        due("empty from a file", 4, t.find(4, ""));
+        due("empty from a device", 5, t.find(5, ""));
+        due("on from a file", -1, t.find(4, "."));
+        due("on from a device", -1, t.find(1, "/a/b/d/."));
+        due("a slash behind a file", 4, t.find(1, "/a/b/f/"));
+        due("absolute from a file", 3, t.find(4, "/a/b"));
+        due("nowhere", -1, t.find(1, "/x"));
+        due("nowhere on the way", -1, t.find(1, "/x/../a"));
+        due("other case", -1, t.find(1, "/A"));
+        due("beginning of a name", -1, t.find(1, "/a/bb"));
+        due("a blank", -1, t.find(1, "/a "));
+        due("a blank", -1, t.find(1, " /a"));
+        due("only a blank", -1, t.find(1, " "));
         due("empty behind a failure", 1, t.find(1));
     }
 
     private static void findNamesOf14() {
-        FileTree t = new FileTree();
-        due("13", 2, create(t, "abcdefghijklm", FILE));
-        due("14", 3, create(t, "abcdefghijklmn", FILE));
-        due("15 is the same", 3, create(t, "abcdefghijklmnX", FILE));
-        due("find 13", 2, find(t, 1, "abcdefghijklm"));
-        due("find 20", 3, find(t, 1, "/abcdefghijklmnopqrst"));
-        due("find 12", -1, find(t, 1, "abcdefghijkl"));
-        due("other 14", -1, find(t, 1, "abcdefghijklmo"));
+        Tree t = new Tree(Tree.ANY_NUMBER);
+        due("13", 2, t.create("abcdefghijklm", FILE));
+        due("14", 3, t.create("abcdefghijklmn", FILE));
+        due("15 is the same", 3, t.create("abcdefghijklmnX", FILE));
+        due("find 13", 2, t.find(1, "abcdefghijklm"));
+        due("find 20", 3, t.find(1, "/abcdefghijklmnopqrst"));
+        due("find 12", -1, t.find(1, "abcdefghijkl"));
+        due("other 14", -1, t.find(1, "abcdefghijklmo"));
         dueEntry(t, 38, 48, "3 abcdefghijklmn");
-        due("14 dots are a name", 4, create(t, "................", DIRECTORY));
-        due("below it", 5, create(t, "................/x", FILE));
-        due("three dots", 6, create(t, "...", FILE));
-        due("free by 16 dots", 5, unlink(t, "................../x"));
+        due("14 dots are a name", 4, t.create("................", DIRECTORY));
+        due("below it", 5, t.create("................/x", FILE));
+        due("three dots", 6, t.create("...", FILE));
+        due("free by 16 dots", 5, t.unlink(1, "................../x"));
     }
 
     private static void findLengths() {
-        FileTree t = new FileTree();
-        due("create", 2, create(t, "a", FILE));
+        Tree t = new Tree(Tree.ANY_NUMBER);
+        due("create", 2, t.create("a", FILE));
         String slashes = "/".repeat(126);
-        due("127", 2, find(t, 1, slashes + "a"));
-        due("128", 2, find(t, 1, slashes + "/a"));
-        due("129", -1, find(t, 1, slashes + "//a"));
-        due("create 129", -1, create(t, slashes + "//b", FILE));
-        due("create 128", 3, create(t, slashes + "/b", FILE));
-        due("unlink 129", -1, unlink(t, slashes + "//b"));
-        due("link 128 128", 2, link(t, 1, slashes + "/a " + slashes + "/c"));
-        due("link 129 128", -1, link(t, 1, slashes + "//a " + slashes + "/d"));
-        due("link 128 129", -1, link(t, 1, slashes + "/a " + slashes + "//d"));
-        due("unlink 128", 3, unlink(t, slashes + "/b"));
-        due("a name of 128 bytes", 3, create(t, "n".repeat(128), FILE));
-        due("a name of 129 bytes", -1, find(t, 1, "n".repeat(129)));
+        due("127", 2, t.find(1, slashes + "a"));
+        due("128", 2, t.find(1, slashes + "/a"));
+        due("129", -1, t.find(1, slashes + "//a"));
+        due("create 129", -1, t.create(slashes + "//b", FILE));
+        due("create 128", 3, t.create(slashes + "/b", FILE));
+        due("unlink 129", -1, t.unlink(1, slashes + "//b"));
+        due("link 128 128", 2, t.link(1, slashes + "/a " + slashes + "/c"));
+        due("link 129 128", -1, t.link(1, slashes + "//a " + slashes + "/d"));
+        due("link 128 129", -1, t.link(1, slashes + "/a " + slashes + "//d"));
+        due("unlink 128", 3, t.unlink(1, slashes + "/b"));
+        due("a name of 128 bytes", 3, t.create("n".repeat(128), FILE));
+        due("a name of 129 bytes", -1, t.find(1, "n".repeat(129)));
     }
 
     private static void create() {
-        FileTree t = new FileTree();
-        text(t, "d");
+        Tree t = new Tree(Tree.ANY_NUMBER);
+        t.text("d");
         due("directory", 2, t.create(1, DIRECTORY, 3, 4));
         int[] d = {1, 3, 4, 1, 32, 0};
         for (int what = 0; what < 6; what++) {
@@ -279,180 +214,180 @@ public final class PromisesTest {
         }
         due("root's links", 3, t.about(1, 3));
         due("root's size", 48, t.about(1, 4));
-        due("its block", 39, inodeNumber(t, 2, 0));
+        due("its block", 39, t.inodeNumber(2, 0));
         dueEntry(t, 38, 32, "2 d_____________");
         dueEntry(t, 39, 0, "2 ._____________");
         dueEntry(t, 39, 16, "1 ..____________");
-        text(t, "d/f/");
+        t.text("d/f/");
         due("file", 3, t.create(1, FILE, 70000, -2));
         int[] f = {2, 4464, 65534, 1, 0, 0};
         for (int what = 0; what < 6; what++) {
             due("file " + what, f[what], t.about(3, what));
         }
-        due("major on its block", 4464, half(t, 33, 194));
-        due("minor on its block", 65534, half(t, 33, 196));
-        text(t, "v");
+        due("major on its block", 4464, t.half(33, 194));
+        due("minor on its block", 65534, t.half(33, 196));
+        t.text("v");
         due("device from a directory", 4, t.create(2, DEVICE, 1, 2));
-        due("stands there", 4, find(t, 1, "d/v"));
-        due("file that is there", 3, create(t, "d/f", FILE));
-        due("device that is there", 4, create(t, "d/v", FILE));
+        due("stands there", 4, t.find(1, "d/v"));
+        due("file that is there", 3, t.create("d/f", FILE));
+        due("device that is there", 4, t.create("d/v", FILE));
         due("unchanged", 3, t.about(4, 0));
-        due("directory that is there", -1, create(t, "d", FILE));
-        due("directory over a directory", -1, create(t, "d", DIRECTORY));
-        due("device over a device", -1, create(t, "d/v", DEVICE));
-        due("directory over a file", -1, create(t, "d/f", DIRECTORY));
-        due("its own dot", -1, create(t, "d/.", FILE));
-        due("its own dots", -1, create(t, "..", FILE));
-        due("kind 0", -1, create(t, "k", 0));
-        due("kind 4", -1, create(t, "k", 4));
-        due("kind -1", -1, create(t, "k", -1));
-        due("kind 65537", -1, create(t, "k", 65537));
-        due("kind 4 of one that is there", -1, create(t, "d/f", 4));
-        due("no name", -1, create(t, "", FILE));
-        due("no name", -1, create(t, "//", DIRECTORY));
-        due("no directory", -1, create(t, "x/k", FILE));
-        due("under a file", -1, create(t, "d/f/k", FILE));
-        due("under a device", -1, create(t, "d/v/k", FILE));
-        due("a blank", -1, create(t, "a b", FILE));
+        due("directory that is there", -1, t.create("d", FILE));
+        due("directory over a directory", -1, t.create("d", DIRECTORY));
+        due("device over a device", -1, t.create("d/v", DEVICE));
+        due("directory over a file", -1, t.create("d/f", DIRECTORY));
+        due("its own dot", -1, t.create("d/.", FILE));
+        due("its own dots", -1, t.create("..", FILE));
+        due("kind 0", -1, t.create("k", 0));
+        due("kind 4", -1, t.create("k", 4));
+        due("kind -1", -1, t.create("k", -1));
+        due("kind 65537", -1, t.create("k", 65537));
+        due("kind 4 of one that is there", -1, t.create("d/f", 4));
+        due("no name", -1, t.create("", FILE));
+        due("no name", -1, t.create("//", DIRECTORY));
+        due("no directory", -1, t.create("x/k", FILE));
+        due("under a file", -1, t.create("d/f/k", FILE));
+        due("under a device", -1, t.create("d/v/k", FILE));
+        due("a blank", -1, t.create("a b", FILE));
         due("text is empty", 1, t.find(1));
         due("nothing came", 0, t.about(5, 0));
         due("nothing was taken", 472, t.free());
-        due("least number", 3, unlink(t, "d/f"));
-        due("is taken again", 3, create(t, "k", FILE));
+        due("least number", 3, t.unlink(1, "d/f"));
+        due("is taken again", 3, t.create("k", FILE));
     }
 
     private static void createWithoutInodes() {
-        FileTree t = new FileTree();
+        Tree t = new Tree(Tree.ANY_NUMBER);
         for (int i = 2; i < 64; i++) {
-            due("inode", i, create(t, "/f" + i, FILE));
+            due("inode", i, t.create("/f" + i, FILE));
         }
         int free = t.free();
-        due("no inode", -1, create(t, "more", FILE));
-        due("no inode", -1, create(t, "more", DIRECTORY));
-        due("no entry came", -1, find(t, 1, "more"));
+        due("no inode", -1, t.create("more", FILE));
+        due("no inode", -1, t.create("more", DIRECTORY));
+        due("no entry came", -1, t.find(1, "more"));
         due("no block was taken", free, t.free());
-        due("one that is there", 9, create(t, "f9", FILE));
-        due("a link needs none", 9, link(t, 1, "f9 l9"));
-        due("unlink", 33, unlink(t, "f33"));
-        due("the free one", 33, create(t, "more", DIRECTORY));
+        due("one that is there", 9, t.create("f9", FILE));
+        due("a link needs none", 9, t.link(1, "f9 l9"));
+        due("unlink", 33, t.unlink(1, "f33"));
+        due("the free one", 33, t.create("more", DIRECTORY));
     }
 
     private static void createWithoutBlocks() {
-        FileTree t = new FileTree();
+        Tree t = new Tree(Tree.ANY_NUMBER);
         leaveFree(t, 0);
-        due("a file needs none", 4, create(t, "f", FILE));
-        due("a directory does", -1, create(t, "d", DIRECTORY));
+        due("a file needs none", 4, t.create("f", FILE));
+        due("a directory does", -1, t.create("d", DIRECTORY));
         due("no inode was taken", 0, t.about(5, 0));
-        due("no entry came", -1, find(t, 1, "d"));
+        due("no entry came", -1, t.find(1, "d"));
         due("links", 2, t.about(1, 3));
         due("clear", true, t.clear(3));
-        due("directory", 5, create(t, "d", DIRECTORY));
+        due("directory", 5, t.create("d", DIRECTORY));
     }
 
     /** The root's 65th entry needs a block; one for a directory of its own comes before that. */
     private static void createGrowsDirectory() {
-        FileTree t = new FileTree();
+        Tree t = new Tree(Tree.ANY_NUMBER);
         leaveFree(t, 2);
-        due("create", 4, create(t, "f", FILE));
+        due("create", 4, t.create("f", FILE));
         for (int i = 5; i < 64; i++) {
-            due("link", 4, link(t, 1, "f l" + i));
+            due("link", 4, t.link(1, "f l" + i));
         }
         due("full block", 64 * 16, t.about(1, 4));
         due("two blocks", 2, t.free());
-        due("directory", 5, create(t, "d", DIRECTORY));
-        due("its block first", 1, inodeNumber(t, 5, 0) < inodeNumber(t, 1, 1) ? 1 : 0);
+        due("directory", 5, t.create("d", DIRECTORY));
+        due("its block first", 1, t.inodeNumber(5, 0) < t.inodeNumber(1, 1) ? 1 : 0);
         due("no block", 0, t.free());
         due("the new size", 65 * 16, t.about(1, 4));
-        dueEntry(t, inodeNumber(t, 1, 1), 0, "5 d_____________");
-        due("unlink", 4, unlink(t, "l7"));
-        due("the first free entry", 6, create(t, "g", FILE));
+        dueEntry(t, t.inodeNumber(1, 1), 0, "5 d_____________");
+        due("unlink", 4, t.unlink(1, "l7"));
+        due("the first free entry", 6, t.create("g", FILE));
         due("same size", 65 * 16, t.about(1, 4));
         dueEntry(t, 38, 7 * 16, "6 g_____________");
 
-        t = new FileTree();
+        t = new Tree(Tree.ANY_NUMBER);
         leaveFree(t, 1);
-        due("create", 4, create(t, "f", FILE));
+        due("create", 4, t.create("f", FILE));
         for (int i = 5; i < 64; i++) {
-            due("link", 4, link(t, 1, "f l" + i));
+            due("link", 4, t.link(1, "f l" + i));
         }
-        due("a directory needs two", -1, create(t, "d", DIRECTORY));
+        due("a directory needs two", -1, t.create("d", DIRECTORY));
         due("none was taken", 1, t.free());
         due("links", 2, t.about(1, 3));
         due("no inode", 0, t.about(5, 0));
-        due("a file needs one", 5, create(t, "g", FILE));
+        due("a file needs one", 5, t.create("g", FILE));
         due("it was taken", 0, t.free());
     }
 
     private static void link() {
-        FileTree t = new FileTree();
-        due("create", 2, create(t, "d", DIRECTORY));
-        due("create", 3, create(t, "d/f", FILE));
-        due("create", 4, create(t, "v", DEVICE));
-        due("link", 3, link(t, 1, "d/f /d/g"));
+        Tree t = new Tree(Tree.ANY_NUMBER);
+        due("create", 2, t.create("d", DIRECTORY));
+        due("create", 3, t.create("d/f", FILE));
+        due("create", 4, t.create("v", DEVICE));
+        due("link", 3, t.link(1, "d/f /d/g"));
         due("links", 2, t.about(3, 3));
-        due("from a directory", 3, link(t, 2, "f ../h"));
+        due("from a directory", 3, t.link(2, "f ../h"));
         due("links", 3, t.about(3, 3));
-        due("it leads there", 3, find(t, 1, "h"));
-        due("device", 4, link(t, 1, "v w"));
-        due("slashes behind", 4, link(t, 1, "v/ x//"));
+        due("it leads there", 3, t.find(1, "h"));
+        due("device", 4, t.link(1, "v w"));
+        due("slashes behind", 4, t.link(1, "v/ x//"));
         due("links", 3, t.about(4, 3));
-        due("nowhere", -1, link(t, 1, "n m"));
-        due("directory", -1, link(t, 1, "d m"));
-        due("no last name", -1, link(t, 1, "v /"));
-        due("no last name", -1, link(t, 1, "v "));
-        due("no directory", -1, link(t, 1, "v n/m"));
-        due("under a file", -1, link(t, 1, "v h/m"));
-        due("name is there", -1, link(t, 1, "v h"));
-        due("name is there", -1, link(t, 1, "v v"));
-        due("name is there", -1, link(t, 1, "v d/."));
-        due("name is there", -1, link(t, 1, "v .."));
+        due("nowhere", -1, t.link(1, "n m"));
+        due("directory", -1, t.link(1, "d m"));
+        due("no last name", -1, t.link(1, "v /"));
+        due("no last name", -1, t.link(1, "v "));
+        due("no directory", -1, t.link(1, "v n/m"));
+        due("under a file", -1, t.link(1, "v h/m"));
+        due("name is there", -1, t.link(1, "v h"));
+        due("name is there", -1, t.link(1, "v v"));
+        due("name is there", -1, t.link(1, "v d/."));
+        due("name is there", -1, t.link(1, "v .."));
         due("same links", 3, t.about(4, 3));
         due("text is empty", 1, t.find(1));
-        due("unlink the first", 3, unlink(t, "d/f"));
+        due("unlink the first", 3, t.unlink(1, "d/f"));
         due("it stays", 2, t.about(3, 0));
-        due("unlink", 3, unlink(t, "d/g"));
-        due("unlink", 3, unlink(t, "h"));
+        due("unlink", 3, t.unlink(1, "d/g"));
+        due("unlink", 3, t.unlink(1, "h"));
         due("it is gone", 0, t.about(3, 0));
     }
 
     private static void linkText() {
-        FileTree t = new FileTree();
-        due("create", 2, create(t, "f", FILE));
-        due("one path", -1, link(t, 1, "f"));
-        due("none", -1, link(t, 1, ""));
-        due("a blank", -1, link(t, 1, " "));
-        due("two blanks", -1, link(t, 1, "f  g"));
-        due("three paths", -1, link(t, 1, "f g h"));
-        due("a blank behind", -1, link(t, 1, "f g "));
-        due("a blank before leads to a directory", -1, link(t, 1, " g"));
-        due("empty path that leads to a file", 2, link(t, 2, " /g"));
+        Tree t = new Tree(Tree.ANY_NUMBER);
+        due("create", 2, t.create("f", FILE));
+        due("one path", -1, t.link(1, "f"));
+        due("none", -1, t.link(1, ""));
+        due("a blank", -1, t.link(1, " "));
+        due("two blanks", -1, t.link(1, "f  g"));
+        due("three paths", -1, t.link(1, "f g h"));
+        due("a blank behind", -1, t.link(1, "f g "));
+        due("a blank before leads to a directory", -1, t.link(1, " g"));
+        due("empty path that leads to a file", 2, t.link(2, " /g"));
         due("links", 2, t.about(2, 3));
-        due("relative to a file", -1, link(t, 2, " h"));
+        due("relative to a file", -1, t.link(2, " h"));
     }
 
     private static void linkNeedsBlock() {
-        FileTree t = new FileTree();
+        Tree t = new Tree(Tree.ANY_NUMBER);
         leaveFree(t, 0);
-        due("create", 4, create(t, "f", FILE));
+        due("create", 4, t.create("f", FILE));
         for (int i = 5; i < 64; i++) {
-            due("link", 4, link(t, 1, "f l" + i));
+            due("link", 4, t.link(1, "f l" + i));
         }
-        due("no block", -1, link(t, 1, "f more"));
+        due("no block", -1, t.link(1, "f more"));
         due("links", 60, t.about(4, 3));
         due("size", 1024, t.about(1, 4));
-        due("no block for a file", -1, create(t, "more", FILE));
-        due("unlink", 4, unlink(t, "l9"));
-        due("a free entry", 4, link(t, 1, "f more"));
+        due("no block for a file", -1, t.create("more", FILE));
+        due("unlink", 4, t.unlink(1, "l9"));
+        due("a free entry", 4, t.link(1, "f more"));
         due("size", 1024, t.about(1, 4));
     }
 
     private static void linkHeldFile() {
-        FileTree t = new FileTree();
-        due("create", 2, create(t, "f", FILE));
+        Tree t = new Tree(Tree.ANY_NUMBER);
+        due("create", 2, t.create("f", FILE));
         due("hold", true, t.hold(2));
-        due("unlink", 2, unlink(t, "f"));
+        due("unlink", 2, t.unlink(1, "f"));
         due("no links", 0, t.about(2, 3));
-        due("linked again", 2, link(t, 2, " /g"));
+        due("linked again", 2, t.link(2, " /g"));
         due("links", 1, t.about(2, 3));
         due("leave", true, t.leave(2));
         due("it stays", 2, t.about(2, 0));
@@ -460,39 +395,39 @@ public final class PromisesTest {
 
     /** More calls than the document promises anything for, but the place must be sound. */
     private static void directoryBeyond12Blocks() {
-        FileTree t = new FileTree();
-        due("create", 2, create(t, "d", DIRECTORY));
-        due("create", 3, create(t, "d/f", FILE));
+        Tree t = new Tree(Tree.ANY_NUMBER);
+        due("create", 2, t.create("d", DIRECTORY));
+        due("create", 3, t.create("d/f", FILE));
         for (int i = 3; i < 768; i++) {
-            due("link", 3, link(t, 2, "f l" + i));
+            due("link", 3, t.link(2, "f l" + i));
         }
         due("12 blocks", 12288, t.about(2, 4));
         due("free", 461, t.free());
-        due("link", 3, link(t, 2, "f more"));
+        due("link", 3, t.link(2, "f more"));
         due("two blocks", 459, t.free());
-        due("the block of numbers first", inodeNumber(t, 2, 12) + 1, number(t, inodeNumber(t, 2, 12), 0));
-        due("found", 3, find(t, 1, "d/more"));
+        due("the block of numbers first", t.inodeNumber(2, 12) + 1, t.number(t.inodeNumber(2, 12), 0));
+        due("found", 3, t.find(1, "d/more"));
         for (int i = 769; i < 274432 / 16; i++) {
-            due("link", 3, link(t, 2, "f m" + i));
+            due("link", 3, t.link(2, "f m" + i));
         }
         due("all that it can have", 274432, t.about(2, 4));
-        due("no link more", -1, link(t, 2, "f again"));
-        due("no file more", -1, create(t, "d/again", FILE));
-        due("no directory more", -1, create(t, "d/again", DIRECTORY));
+        due("no link more", -1, t.link(2, "f again"));
+        due("no file more", -1, t.create("d/again", FILE));
+        due("no directory more", -1, t.create("d/again", DIRECTORY));
         due("blocks", 473 - 269, t.free());
-        due("unlink", 3, unlink(t, "d/m9999"));
-        due("a free entry", 3, link(t, 2, "f again"));
+        due("unlink", 3, t.unlink(1, "d/m9999"));
+        due("a free entry", 3, t.link(2, "f again"));
     }
 
     private static void unlink() {
-        FileTree t = new FileTree();
-        due("create", 2, create(t, "a", FILE));
-        due("create", 3, create(t, "b", FILE));
-        due("create", 4, create(t, "v", DEVICE));
+        Tree t = new Tree(Tree.ANY_NUMBER);
+        due("create", 2, t.create("a", FILE));
+        due("create", 3, t.create("b", FILE));
+        due("create", 4, t.create("v", DEVICE));
         due("fill", true, t.fill(0, 3072, 1));
         due("save", 2000, t.save(2, 0, 2000));
         due("free", 471, t.free());
-        due("unlink", 2, unlink(t, "/a//"));
+        due("unlink", 2, t.unlink(1, "/a//"));
         due("blocks are free", 473, t.free());
         for (int what = 0; what < 6; what++) {
             due("free inode " + what, 0, t.about(2, what));
@@ -503,82 +438,77 @@ public final class PromisesTest {
         dueEntry(t, 38, 32, "0 ______________");
         due("size stays", 80, t.about(1, 4));
         due("block keeps its bytes", 1, t.peek(39, 0));
-        due("not there any more", -1, unlink(t, "a"));
-        due("the first free entry", 2, create(t, "c", FILE));
+        due("not there any more", -1, t.unlink(1, "a"));
+        due("the first free entry", 2, t.create("c", FILE));
         dueEntry(t, 38, 32, "2 c_____________");
         due("block comes with bytes 0", 1, t.save(2, 0, 1));
-        due("its block", 39, inodeNumber(t, 2, 0));
+        due("its block", 39, t.inodeNumber(2, 0));
         due("byte 1", 0, t.peek(39, 1));
-        due("device", 4, unlink(t, "v"));
-        due("no name", -1, unlink(t, "/"));
-        due("no name", -1, unlink(t, ""));
-        due("no directory", -1, unlink(t, "x/b"));
-        due("under a file", -1, unlink(t, "b/b"));
-        due("dot", -1, unlink(t, "/."));
-        due("dots", -1, unlink(t, "/.."));
-        due("a blank", -1, unlink(t, "b "));
+        due("device", 4, t.unlink(1, "v"));
+        due("no name", -1, t.unlink(1, "/"));
+        due("no name", -1, t.unlink(1, ""));
+        due("no directory", -1, t.unlink(1, "x/b"));
+        due("under a file", -1, t.unlink(1, "b/b"));
+        due("dot", -1, t.unlink(1, "/."));
+        due("dots", -1, t.unlink(1, "/.."));
+        due("a blank", -1, t.unlink(1, "b "));
         due("text is empty", 1, t.find(1));
-        due("from a file", -1, unlinkFrom(t, 3, "b"));
-        due("absolute from a file", 3, unlinkFrom(t, 3, "/b"));
-    }
-
-    private static int unlinkFrom(FileTree t, int from, String path) {
-        text(t, path);
-        return t.unlink(from);
+        due("from a file", -1, t.unlink(3, "b"));
+        due("absolute from a file", 3, t.unlink(3, "/b"));
     }
 
     private static void unlinkDirectory() {
-        FileTree t = new FileTree();
-        due("create", 2, create(t, "d", DIRECTORY));
-        due("create", 3, create(t, "d/e", DIRECTORY));
-        due("create", 4, create(t, "d/e/f", FILE));
+        Tree t = new Tree(Tree.ANY_NUMBER);
+        due("create", 2, t.create("d", DIRECTORY));
+        due("create", 3, t.create("d/e", DIRECTORY));
+        due("create", 4, t.create("d/e/f", FILE));
         due("links of d", 2, t.about(2, 3));
-        due("in use", -1, unlink(t, "d"));
-        due("in use", -1, unlink(t, "d/e"));
-        due("dot of d", -1, unlink(t, "d/."));
-        due("dots of e", -1, unlink(t, "d/e/.."));
+        due("in use", -1, t.unlink(1, "d"));
+        due("in use", -1, t.unlink(1, "d/e"));
+        due("dot of d", -1, t.unlink(1, "d/."));
+        due("dots of e", -1, t.unlink(1, "d/e/.."));
         due("links of d", 2, t.about(2, 3));
-        due("unlink f", 4, unlink(t, "d/e/f"));
-        due("unlink e", 3, unlink(t, "d/e"));
+        due("unlink f", 4, t.unlink(1, "d/e/f"));
+        due("unlink e", 3, t.unlink(1, "d/e"));
         due("links of d", 1, t.about(2, 3));
         due("links of the root", 3, t.about(1, 3));
         dueEntry(t, 40, 0, "0 ______________");
         dueEntry(t, 40, 16, "0 ______________");
-        due("dot of an empty one", -1, unlink(t, "d/."));
-        due("dots of an empty one", -1, unlink(t, "d/.."));
-        due("it has them still", 1, find(t, 2, "./.."));
-        due("unlink d", 2, unlink(t, "d"));
+        due("dot of an empty one", -1, t.unlink(1, "d/."));
+        due("dots of an empty one", -1, t.unlink(1, "d/.."));
+        due("it has them still", 1, t.find(2, "./.."));
+        due("unlink d", 2, t.unlink(1, "d"));
         due("links of the root", 2, t.about(1, 3));
-        due("three dots are a name", 2, create(t, "...", DIRECTORY));
-        due("three dots are a name", 2, unlink(t, "..."));
-        due("dots and a letter", 2, create(t, ".x", FILE));
-        due("dots and a letter", 2, unlink(t, ".x"));
-        due("of the new root", -1, unlinkFrom(new FileTree(), 1, "."));
+        due("three dots are a name", 2, t.create("...", DIRECTORY));
+        due("three dots are a name", 2, t.unlink(1, "..."));
+        due("dots and a letter", 2, t.create(".x", FILE));
+        due("dots and a letter", 2, t.unlink(1, ".x"));
+        due("of the new root", -1, new Tree().unlink(1, "."));
         due("free", 473, t.free());
     }
 
     private static void unlinkHeldDirectory() {
-        FileTree t = new FileTree();
-        due("create", 2, create(t, "d", DIRECTORY));
-        due("create", 3, create(t, "f", FILE));
+        Tree t = new Tree(Tree.ANY_NUMBER);
+        due("create", 2, t.create("d", DIRECTORY));
+        due("create", 3, t.create("f", FILE));
         due("hold", true, t.hold(2));
         due("hold", true, t.hold(2));
-        due("unlink", 2, unlink(t, "d"));
+        due("unlink", 2, t.unlink(1, "d"));
         int[] d = {1, 0, 0, 0, 32, 2};
         for (int what = 0; what < 6; what++) {
             due("directory " + what, d[what], t.about(2, what));
         }
         due("links of the root", 2, t.about(1, 3));
         due("its block stays", 472, t.free());
-        due("no dot", -1, find(t, 2, "."));
-        due("no dots", -1, find(t, 2, ".."));
-        due("itself", 2, find(t, 2, ""));
-        due("absolute", 3, find(t, 2, "/f"));
-        text(t, "x");
+        due("no dot", -1, t.find(2, "."));
+        due("no dots", -1, t.find(2, ".."));
+        due("itself", 2, t.find(2, ""));
+        due("absolute", 3, t.find(2, "/f"));
+        t.text("x");
         due("no entry", -1, t.create(2, FILE, 0, 0));
-        text(t, "x");
+        t.text("x");
         due("no entry", -1, t.create(2, DIRECTORY, 0, 0));
-        due("no link", -1, link(t, 2, "/f x"));
+        due("no link", -1, t.link(2, "/f x"));
         due("same links", 1, t.about(3, 3));
         due("read", 32, t.read(2, 0, 100));
         due("nothing", 0, t.at(0));
@@ -591,7 +521,7 @@ public final class PromisesTest {
     }
 
     private static void holdAndLeave() {
-        FileTree t = new FileTree();
+        Tree t = new Tree(Tree.ANY_NUMBER);
         int[] none = {-1, 0, 2, 63, 64, Integer.MIN_VALUE, Integer.MAX_VALUE};
         for (int inode : none) {
             due("hold " + inode, false, t.hold(inode));
@@ -601,15 +531,15 @@ public final class PromisesTest {
         due("hold", true, t.hold(1));
         due("leave", true, t.leave(1));
         due("the root stays", 1, t.about(1, 0));
-        due("create", 2, create(t, "f", FILE));
+        due("create", 2, t.create("f", FILE));
         due("save", 5, t.save(2, 0, 5));
         due("hold", true, t.hold(2));
         due("hold", true, t.hold(2));
         due("held", 2, t.about(2, 5));
         due("leave", true, t.leave(2));
-        due("unlink", 2, unlink(t, "f"));
+        due("unlink", 2, t.unlink(1, "f"));
         due("it stays", 2, t.about(2, 0));
-        due("its number is not free", 3, create(t, "g", FILE));
+        due("its number is not free", 3, t.create("g", FILE));
         due("save", 5, t.save(2, 5, 5));
         due("read", 10, t.read(2, 0, 100));
         due("hold without links", true, t.hold(2));
@@ -622,12 +552,12 @@ public final class PromisesTest {
     }
 
     private static void read() {
-        FileTree t = new FileTree();
-        due("create", 2, create(t, "f", FILE));
-        due("create", 3, create(t, "v", DEVICE));
+        Tree t = new Tree(Tree.ANY_NUMBER);
+        due("create", 2, t.create("f", FILE));
+        due("create", 3, t.create("v", DEVICE));
         due("empty", 0, t.read(2, 0, 3072));
         t.fill(0, 3072, 0);
-        grow(t, 2, 14 * 1024 + 7);
+        t.grow(2, 0, 14 * 1024 + 7);
         due("size", 14343, t.about(2, 4));
         t.fill(0, 3072, 100);
         due("over four blocks", 3072, t.read(2, 1000, 3072));
@@ -662,9 +592,9 @@ public final class PromisesTest {
     }
 
     private static void save() {
-        FileTree t = new FileTree();
-        due("create", 2, create(t, "f", FILE));
-        due("create", 3, create(t, "v", DEVICE));
+        Tree t = new Tree(Tree.ANY_NUMBER);
+        due("create", 2, t.create("f", FILE));
+        due("create", 3, t.create("v", DEVICE));
         t.fill(0, 3072, 7);
         due("nothing", 0, t.save(2, 0, 0));
         due("no block", 473, t.free());
@@ -680,7 +610,7 @@ public final class PromisesTest {
         due("bytes", (7 + 1023) & 255, t.peek(39, 1023));
         due("bytes", 7, t.peek(40, 0));
         due("bytes 0 behind it", 0, t.peek(40, 1));
-        due("size on its block", 1025, number(t, 33, 136));
+        due("size on its block", 1025, t.number(33, 136));
         due("behind the end", -1, t.save(2, 1026, 1));
         due("nothing behind the end", -1, t.save(2, 1026, 0));
         due("at -1", -1, t.save(2, -1, 1));
@@ -695,16 +625,16 @@ public final class PromisesTest {
             due("none " + inode, -1, t.save(inode, 0, 0));
         }
         due("size stays", 1025, t.about(2, 4));
-        due("block numbers", 39, inodeNumber(t, 2, 0));
-        due("block numbers", 40, inodeNumber(t, 2, 1));
-        due("block numbers", 0, inodeNumber(t, 2, 2));
+        due("block numbers", 39, t.inodeNumber(2, 0));
+        due("block numbers", 40, t.inodeNumber(2, 1));
+        due("block numbers", 0, t.inodeNumber(2, 2));
     }
 
     private static void saveOverOldBytes() {
-        FileTree t = new FileTree();
-        due("create", 2, create(t, "f", FILE));
+        Tree t = new Tree(Tree.ANY_NUMBER);
+        due("create", 2, t.create("f", FILE));
         t.fill(0, 3072, 0);
-        grow(t, 2, 5000);
+        t.grow(2, 0, 5000);
         int free = t.free();
         t.fill(0, 3072, 128);
         due("in the middle", 1100, t.save(2, 1000, 1100));
@@ -723,16 +653,16 @@ public final class PromisesTest {
     }
 
     private static void saveLimits() {
-        FileTree t = new FileTree();
-        due("create", 2, create(t, "f", FILE));
-        due("12 blocks", 12288, grow(t, 2, 12288));
+        Tree t = new Tree(Tree.ANY_NUMBER);
+        due("create", 2, t.create("f", FILE));
+        due("12 blocks", 12288, t.grow(2, 0, 12288));
         due("free", 461, t.free());
         due("1 byte more", 1, t.save(2, 12288, 1));
         due("two blocks", 459, t.free());
-        due("the block of numbers first", 51, inodeNumber(t, 2, 12));
-        due("then that of bytes", 52, number(t, 51, 0));
-        due("no other number", 0, number(t, 51, 4));
-        due("all but a byte", 274431 - 12289, grow(t, 2, 274431 - 12289));
+        due("the block of numbers first", 51, t.inodeNumber(2, 12));
+        due("then that of bytes", 52, t.number(51, 0));
+        due("no other number", 0, t.number(51, 4));
+        due("all but a byte", 274431 - 12289, t.grow(2, 12289, 274431 - 12289));
         due("size", 274431, t.about(2, 4));
         due("free", 473 - 269, t.free());
         due("beyond", -1, t.save(2, 274431, 2));
@@ -744,16 +674,16 @@ public final class PromisesTest {
         due("nothing", 0, t.save(2, 274432, 0));
         t.fill(0, 3072, 9);
         due("the last block", 3072, t.save(2, 271360, 3072));
-        due("its last byte", (9 + 3071) & 255, t.peek(number(t, 51, 255 * 4), 1023));
-        due("unlink", 2, unlink(t, "f"));
+        due("its last byte", (9 + 3071) & 255, t.peek(t.number(51, 255 * 4), 1023));
+        due("unlink", 2, t.unlink(1, "f"));
         due("all are free", 473, t.free());
-        due("numbers stay on their block", 52, number(t, 51, 0));
+        due("numbers stay on their block", 52, t.number(51, 0));
     }
 
     private static void saveUntilFull() {
-        FileTree t = new FileTree();
+        Tree t = new Tree(Tree.ANY_NUMBER);
         leaveFree(t, 2);
-        due("create", 4, create(t, "f", FILE));
+        due("create", 4, t.create("f", FILE));
         t.fill(0, 3072, 3);
         due("100", 100, t.save(4, 0, 100));
         due("up to the full block", 1948, t.save(4, 100, 3072));
@@ -767,17 +697,17 @@ public final class PromisesTest {
     }
 
     private static void saveWithOneBlockForTwo() {
-        FileTree t = new FileTree();
-        due("create", 2, create(t, "f", FILE));
-        due("11 blocks", 11 * 1024, grow(t, 2, 11 * 1024));
-        due("create", 3, create(t, "g", FILE));
+        Tree t = new Tree(Tree.ANY_NUMBER);
+        due("create", 2, t.create("f", FILE));
+        due("11 blocks", 11 * 1024, t.grow(2, 0, 11 * 1024));
+        due("create", 3, t.create("g", FILE));
         leaveFree(t, 2);
-        due("full2 is", 5, find(t, 1, "full2"));
+        due("full2 is", 5, t.find(1, "full2"));
         due("two left", 2, t.free());
         due("only one block comes", 1024, t.save(2, 11264, 3072));
         due("one left", 1, t.free());
         due("size", 12288, t.about(2, 4));
-        due("no number 12", 0, inodeNumber(t, 2, 12));
+        due("no number 12", 0, t.inodeNumber(2, 12));
         due("none comes", 0, t.save(2, 12288, 3072));
         due("one left", 1, t.free());
         due("another file takes it", 1, t.save(3, 0, 1));
@@ -785,18 +715,18 @@ public final class PromisesTest {
         due("none comes", 0, t.save(2, 12288, 1));
         due("clear", true, t.clear(3));
         due("one left", 1, t.free());
-        due("unlink", 5, unlink(t, "full2"));
+        due("unlink", 5, t.unlink(1, "full2"));
         due("both come", 1, t.save(2, 12288, 1));
-        due("numbers first", 1, inodeNumber(t, 2, 12) < number(t, inodeNumber(t, 2, 12), 0) ? 1 : 0);
+        due("numbers first", 1, t.inodeNumber(2, 12) < t.number(t.inodeNumber(2, 12), 0) ? 1 : 0);
     }
 
     private static void clear() {
-        FileTree t = new FileTree();
-        text(t, "f");
+        Tree t = new Tree(Tree.ANY_NUMBER);
+        t.text("f");
         due("create", 2, t.create(1, FILE, 11, 12));
-        due("create", 3, create(t, "v", DEVICE));
+        due("create", 3, t.create("v", DEVICE));
         t.fill(0, 3072, 1);
-        grow(t, 2, 20 * 1024);
+        t.grow(2, 0, 20 * 1024);
         due("free", 473 - 21, t.free());
         due("hold", true, t.hold(2));
         due("clear", true, t.clear(2));
@@ -806,7 +736,7 @@ public final class PromisesTest {
             due("file " + what, f[what], t.about(2, what));
         }
         for (int k = 0; k < 13; k++) {
-            due("number " + k, 0, inodeNumber(t, 2, k));
+            due("number " + k, 0, t.inodeNumber(2, k));
         }
         due("bytes stay on a free block", 1, t.peek(39, 0));
         due("nothing to read", 0, t.read(2, 0, 1));
@@ -822,8 +752,8 @@ public final class PromisesTest {
     }
 
     private static void about() {
-        FileTree t = new FileTree();
-        text(t, "v");
+        Tree t = new Tree(Tree.ANY_NUMBER);
+        t.text("v");
         due("create", 2, t.create(1, DEVICE, -1, 40000));
         due("kind", 3, t.about(2, 0));
         due("major", 65535, t.about(2, 1));
@@ -845,13 +775,13 @@ public final class PromisesTest {
     }
 
     private static void free() {
-        FileTree t = new FileTree();
+        Tree t = new Tree(Tree.ANY_NUMBER);
         due("new", 473, t.free());
-        due("create", 2, create(t, "f", FILE));
+        due("create", 2, t.create("f", FILE));
         due("a file has none", 473, t.free());
-        due("create", 3, create(t, "d", DIRECTORY));
+        due("create", 3, t.create("d", DIRECTORY));
         due("a directory has one", 472, t.free());
-        grow(t, 2, 3072);
+        t.grow(2, 0, 3072);
         due("three", 469, t.free());
         due("bits", 7, t.peek(37, 5));
         due("clear", true, t.clear(2));
@@ -861,20 +791,20 @@ public final class PromisesTest {
     }
 
     private static void forget() {
-        FileTree t = new FileTree();
+        Tree t = new Tree(Tree.ANY_NUMBER);
         due("nothing held", 0, t.forget());
-        due("create", 2, create(t, "f", FILE));
-        due("create", 3, create(t, "d", DIRECTORY));
-        due("create", 4, create(t, "v", DEVICE));
-        due("create", 5, create(t, "g", FILE));
+        due("create", 2, t.create("f", FILE));
+        due("create", 3, t.create("d", DIRECTORY));
+        due("create", 4, t.create("v", DEVICE));
+        due("create", 5, t.create("g", FILE));
         due("save", 3000, t.save(2, 0, 3000));
         for (int inode = 1; inode < 6; inode++) {
             due("hold", true, t.hold(inode));
             due("hold", true, t.hold(inode));
         }
-        due("unlink", 2, unlink(t, "f"));
-        due("unlink", 3, unlink(t, "d"));
-        due("unlink", 4, unlink(t, "v"));
+        due("unlink", 2, t.unlink(1, "f"));
+        due("unlink", 3, t.unlink(1, "d"));
+        due("unlink", 4, t.unlink(1, "v"));
         due("still used", 469, t.free());
         due("forget", 3, t.forget());
         due("free", 473, t.free());
@@ -884,11 +814,11 @@ public final class PromisesTest {
             due("leave " + inode, false, t.leave(inode));
         }
         due("again", 0, t.forget());
-        due("the least number", 2, create(t, "x", FILE));
+        due("the least number", 2, t.create("x", FILE));
     }
 
     private static void fill() {
-        FileTree t = new FileTree();
+        Tree t = new Tree(Tree.ANY_NUMBER);
         due("all", true, t.fill(0, 3072, 250));
         due("first", 250, t.at(0));
         due("sixth", 255, t.at(5));
@@ -919,7 +849,7 @@ public final class PromisesTest {
     }
 
     private static void at() {
-        FileTree t = new FileTree();
+        Tree t = new Tree(Tree.ANY_NUMBER);
         t.fill(0, 3072, 128);
         due("without sign", 128, t.at(0));
         due("last", (128 + 3071) & 255, t.at(3071));
@@ -930,7 +860,7 @@ public final class PromisesTest {
     }
 
     private static void peek() {
-        FileTree t = new FileTree();
+        Tree t = new Tree(Tree.ANY_NUMBER);
         due("lowest byte first", 0x40, t.peek(1, 0));
         due("then", 0x30, t.peek(1, 1));
         due("then", 0x20, t.peek(1, 2));
@@ -947,17 +877,17 @@ public final class PromisesTest {
     }
 
     private static void wrongFrom() {
-        FileTree t = new FileTree();
-        due("create", 2, create(t, "f", FILE));
+        Tree t = new Tree(Tree.ANY_NUMBER);
+        due("create", 2, t.create("f", FILE));
         int[] none = {-1, 0, 3, 63, 64, Integer.MIN_VALUE, Integer.MAX_VALUE};
         for (int from : none) {
-            due("empty from " + from, -1, find(t, from, ""));
-            due("root from " + from, -1, find(t, from, "/"));
-            due("find from " + from, -1, find(t, from, "/f"));
-            text(t, "g");
+            due("empty from " + from, -1, t.find(from, ""));
+            due("root from " + from, -1, t.find(from, "/"));
+            due("find from " + from, -1, t.find(from, "/f"));
+            t.text("g");
             due("create from " + from, -1, t.create(from, FILE, 0, 0));
-            due("link from " + from, -1, link(t, from, "f g"));
-            text(t, "f");
+            due("link from " + from, -1, t.link(from, "f g"));
+            t.text("f");
             due("unlink from " + from, -1, t.unlink(from));
         }
         due("nothing changed", 1, t.about(2, 3));
