@@ -831,10 +831,13 @@ public final class BoundariesTest {
         due("d's bytes", 48, t.read(2, 0, 3072));
         due("in a file", 48, t.save(4, 0, 48));
         due("d/x", 3, t.find(1, "d/x"));
-        due("f/x", NONE, t.find(1, "f/x"));
-        due("x from f", NONE, t.find(4, "x"));
+        for (String name : new String[] {"x", ".", ".."}) {
+            due("f/" + name, NONE, t.find(1, "f/" + name));
+            due(name + " from f", NONE, t.find(4, name));
+            due("create f/" + name, NONE, t.create("f/" + name, FILE));
+        }
         due("unlink f/x", NONE, t.unlink(1, "f/x"));
-        due("create f/x", NONE, t.create("f/x", FILE));
+        due("x's links", 1, t.about(3, 3));
     }
 
     @Sentence(in = "Terms", says = "One without names leads to where it begins.")
@@ -1884,6 +1887,18 @@ public final class BoundariesTest {
             due("create " + name, 4, t.create(name, FILE));
             due("unlink " + name, 4, t.unlink(1, name));
         }
+    }
+
+    /** A directory without other entries could go, but not by these names. */
+    @Sentence(in = "Promise 6", says = UNLINK_NONE)
+    private static void unlinkDotsOfTheEmptyRoot() {
+        Tree t = new Tree();
+        for (String path : new String[] {".", "..", "/.", "/..", "../..", "./.."}) {
+            due(path, NONE, t.unlink(1, path));
+        }
+        due("root's .", "1 ._____________", t.entry(38, 0));
+        due("root's ..", "1 ..____________", t.entry(38, 16));
+        dueAbout("root", t, 1, 1, 0, 0, 2, 32, 0);
     }
 
     @Sentence(in = "Promise 6", says = UNLINK_NONE)

@@ -5,8 +5,8 @@ import java.util.TreeSet;
 
 /**
  * Runs of calls drawn from fixed seeds, each answered by a second, simpler tree too: there files
- * are lists of bytes and directories lists of entries. Then every byte that a block in use, an
- * inode or the map has is compared by peek.
+ * are lists of bytes and directories lists of entries. Then every byte of every block is compared by
+ * peek: calls behind the 512th, which the document leaves free and this class answers all the same.
  */
 public final class RandomRunsTest {
     private static final int RUNS = 1500;
@@ -239,7 +239,7 @@ public final class RandomRunsTest {
         private void compareDisks() {
             int[][] want = model.disk();
             for (int b = 0; b < 512; b++) {
-                for (int k = 0; want[b] != null && k < 1024; k++) {
+                for (int k = 0; k < 1024; k++) {
                     if (want[b][k] != tree.peek(b, k)) {
                         wrong++;
                         System.out.println("run " + seed + ", after call " + calls + ": byte " + k + " of block "
@@ -281,6 +281,7 @@ public final class RandomRunsTest {
     private static final class Model {
         private final Node[] nodes = new Node[64];
         private final TreeSet<Integer> freeBlocks = new TreeSet<>();
+        private final int[][] kept = new int[512][1024];
         private final byte[] buffer = new byte[3072];
         private String text = "";
 
@@ -422,6 +423,7 @@ public final class RandomRunsTest {
         }
 
         private void drop(Node n) {
+            putBlocks(kept, n);
             freeBlocks.addAll(n.blocks);
             n.blocks.clear();
             if (n.numbers != 0) {
@@ -581,8 +583,8 @@ public final class RandomRunsTest {
             if (node(i) == null || nodes[i].kind != 2) {
                 return false;
             }
-            nodes[i].bytes = new byte[0];
             drop(nodes[i]);
+            nodes[i].bytes = new byte[0];
             return true;
         }
 
@@ -623,11 +625,11 @@ public final class RandomRunsTest {
             return k < 0 || k > 3071 ? -1 : buffer[k] & 255;
         }
 
-        /** The blocks as they must be; null where a free one may keep what it had. */
+        /** The blocks as they must be; free ones keep what they had. */
         int[][] disk() {
             int[][] d = new int[512][];
-            for (int b = 0; b < 38; b++) {
-                d[b] = new int[1024];
+            for (int b = 0; b < 512; b++) {
+                d[b] = b < 38 ? new int[1024] : kept[b];
             }
             int[] superblock = {270544960, 512, 474, 64, 31, 2, 33, 37};
             for (int i = 0; i < 8; i++) {
@@ -653,13 +655,22 @@ public final class RandomRunsTest {
             put(row, at + 6, n.links, 2);
             put(row, at + 8, n.size(), 4);
             put(row, at + 60, n.numbers, 4);
+            for (int k = 0; k < Math.min(12, n.blocks.size()); k++) {
+                put(row, at + 12 + 4 * k, n.blocks.get(k), 4);
+            }
+            putBlocks(d, n);
+        }
+
+        private void putBlocks(int[][] d, Node n) {
             if (n.numbers != 0) {
                 d[n.numbers] = new int[1024];
             }
             byte[] all = bytesOf(n);
             for (int k = 0; k < n.blocks.size(); k++) {
                 int b = n.blocks.get(k);
-                put(k < 12 ? row : d[n.numbers], k < 12 ? at + 12 + 4 * k : 4 * (k - 12), b, 4);
+                if (k >= 12) {
+                    put(d[n.numbers], 4 * (k - 12), b, 4);
+                }
                 d[b] = new int[1024];
                 for (int j = 0; j < 1024 && k * 1024 + j < all.length; j++) {
                     d[b][j] = all[k * 1024 + j] & 255;
